@@ -77,7 +77,6 @@ public final class JawBench {
     private static final int SEED = 24;
     private static final int LAW = 25;
     private static final int FORCE = 26;
-    private static final int WEAR = 28;
     private static final int OR = 29;
     private static final int AND = 30;
     private static final int NOT = 31;
@@ -945,6 +944,7 @@ public final class JawBench {
      */
     private static final class Formula {
         private final Scan scan;
+        /** Long enough: no more than all KNOTS and all '(' that may be open can wait at once. */
         private final int[] waiting = new int[MOST_KNOTS + MOST_OPEN];
         private int waitingCount;
         private int open;
@@ -1014,12 +1014,18 @@ public final class JawBench {
             return 0;
         }
 
+        private void dropOpen() {
+            if (waitingCount > 0) {
+                waitingCount--;
+            }
+            open--;
+        }
+
         private int takeSign(Laws laws) {
             int kind = scan.kind;
             if (kind == CLOSE) {
                 release(laws, rankOf(OR));
-                waitingCount--;
-                open--;
+                dropOpen();
                 return 0;
             }
             int rank = rankOf(kind);
@@ -1370,13 +1376,13 @@ public final class JawBench {
         }
 
         private int drawn() {
-            lastDrawn = lastDrawn * 1103515245L + 12345L & 0x7fffffffL;
+            lastDrawn = (lastDrawn * 1103515245L + 12345L) & 0x7fffffffL;
             return (int) (lastDrawn / 65536L);
         }
 
         /** The VERDICT; what it came from stays in names, force and slack. */
         int measured(Court court, int judge, int nut, int hardness) {
-            names[0] = plan.jaw[judge];
+            names[JAW - JAW] = plan.jaw[judge];
             names[TEETH - JAW] = court.teeth[judge];
             names[HARD - JAW] = hardness;
             names[BITTER - JAW] = plan.bitter[nut];

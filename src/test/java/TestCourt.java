@@ -163,6 +163,9 @@ public final class TestCourt {
         value("not 5", 0);
         value("not 0", 1);
         value("not not 5", 1);
+        value("not ".repeat(63) + "1", 0);
+        value("((((((((" + "not ".repeat(63) + "0))))))))", 1);
+        value("1+(2*(3-(4<(5 and (6 or (7=(8)))))))", 7);
         value("not 1<0", 1);
         value("not 1+1", 0);
         value("5 and 3", 1);

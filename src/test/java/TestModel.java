@@ -31,7 +31,7 @@ public final class TestModel {
     }
 
     public static void main(String[] args) throws Exception {
-        int runs = args.length > 0 ? Integer.parseInt(args[0]) : 400;
+        int runs = args.length > 0 ? Integer.parseInt(args[0]) : 1000;
         long first = args.length > 1 ? Long.parseLong(args[1]) : 1;
         int wrong = 0;
         for (long seed = first; seed < first + runs && wrong < 5; seed++) {

@@ -84,8 +84,22 @@ public final class TestText {
         Check.tell(x, "judge a 10 2;nut n 5 9 3;suit s a n 4;");
         Check.due("nothing tried by a text", -1, Check.suit(x, 0, 4));
         Check.due("day 0 by a text", 0, x.count(4));
+        cut();
         Check.due("blanks alone", 0, Check.tell(x, " \n  \n"));
         Check.due("no lines, no suits", 0, x.count(2));
+    }
+
+    /** The text ends within a token: what stands behind it on the tape doesn't count. */
+    private static void cut() {
+        String[] texts = {"lever 55;", "judge abcd 1 1;", "law force 1<=2;", "law force 1<>2;", "law force 1>=2;", "lever 5;   ;"};
+        int[] lengths = {7, 9, 12, 12, 12, 10};
+        for (int i = 0; i < texts.length; i++) {
+            JawBench x = new JawBench();
+            boolean whole = i == texts.length - 1;
+            Check.due("cut " + texts[i], whole ? 1 : -1, tellFirst(x, texts[i], lengths[i]));
+            Check.due("cut fault", whole ? 0 : 1, x.fault(0));
+            Check.due("cut place", whole ? -1 : lengths[i], x.fault(1));
+        }
     }
 
     private static int tellFirst(JawBench x, String text, int n) {
@@ -163,6 +177,8 @@ public final class TestText {
         Check.fault("seed 0;", 0, -1);
         Check.fault("seed 99999;", 0, -1);
         Check.fault("seed 100000;", 2, 5);
+        Check.fault("seed 999990;", 2, 5);
+        Check.fault("seed 0000099999;", 0, -1);
         String four = "judge a 1 0;judge b 1 0;judge c 1 0;judge d 1 0;";
         Check.fault(four, 0, -1);
         Check.fault(four + " judge a 1 0;", 2, four.length() + 1);
@@ -213,6 +229,13 @@ public final class TestText {
         Check.fault("law force;", 1, 9);
         Check.fault("law jaw 1;", 1, 4);
         Check.fault("law w 1;", 1, 4);
+        for (String word : PlainModel.LANGUAGE) {
+            boolean isRule = PlainModel.RULES.contains(word);
+            Check.fault("law " + word + " 1;", isRule ? 0 : 1, isRule ? -1 : 4);
+            boolean isName = PlainModel.NAMES.contains(word);
+            int at = word.equals("not") ? 13 : 10;
+            Check.fault("law force " + word + ";", isName ? 0 : 1, isName ? -1 : at);
+        }
         Check.fault("law force 1+;", 1, 12);
         Check.fault("law force 1+", 1, 12);
         Check.fault("law force +1;", 1, 10);

@@ -67,6 +67,15 @@ public final class TestThought {
         x = Check.told("judge a 10 1;judge b 30 1;nut n 30 20 1;suit s a n 0;suit t a n 0;suit u a n 0;suit v a n 0;suit w a n 0;suit y b n 0;law wear 0;");
         Check.due("gain with those not dealt", 100, x.deal(1, 4));
         Check.due("the fourth", 1, x.deal(1, 3));
+        // Only the last judge is strong enough: the last of 256 rows.
+        x = Check.told("judge a 1 1;judge b 2 1;judge c 3 1;judge d 30 1;nut n 30 20 1;suit s a n 0;suit t a n 1;suit u a n 2;suit v a n 3;law wear 0;");
+        for (int k = 0; k < 4; k++) {
+            Check.due("the last judge of " + k, 3, x.deal(4, k));
+        }
+        Check.due("gain of the last row", 80, x.deal(4, 4));
+        // 40 would be halved, 30 is whole: the least number of several judges alike.
+        x = Check.told("judge a 40 1;judge b 30 1;judge c 30 1;nut n 30 20 1;suit s c n 0;law wear 0;");
+        Check.due("the first of two alike", 1, x.deal(1, 0));
     }
 
     private static void order() {
@@ -90,6 +99,13 @@ public final class TestThought {
         Check.due("gain with those behind", 9 + 4 + 20, x.order(5));
         Check.due("put off ones aren't of this day", true, x.put(0, 1));
         Check.due("the first of this day", 1, x.order(0));
+        // Each is whole only at its place: the last of 120 rows.
+        x = Check.told("judge a 1 9;nut n 80 1 1;nut m 60 1 1;nut k 40 1 1;nut e 20 1 1;nut f 0 1 1;"
+                + "suit s a n 0;suit t a m 0;suit u a k 0;suit v a e 0;suit w a f 0;law force load*20;law wear 0;");
+        for (int k = 0; k < 5; k++) {
+            Check.due("the last row, " + k, 4 - k, x.order(k));
+        }
+        Check.due("gain of the last row", 5, x.order(5));
     }
 
     private static void enough() {
@@ -315,6 +331,51 @@ public final class TestThought {
         Check.due("not worn", 20, x.tried(1, 0, 1));
     }
 
+    /** What one call thought of otherwise must not be there in the next one, whichever it is. */
+    private static void nothingStaysOtherwise() {
+        JawBench x = Check.told("judge a 39 1;judge b 39 0;nut n 30 20 1;nut m 12 20 1;suit s a n 0;suit t b m 0;suit u a m 2;rest 2;lever 51;");
+        x.stone(0, true);
+        for (int other = 0; other <= 7; other++) {
+            int[] asked = new int[16];
+            for (int call = 0; call < asked.length; call++) {
+                if (other == 6) {
+                    x.chance(7, 5, 0);
+                } else if (other == 7) {
+                    x.levers();
+                } else {
+                    x.tried(other, 0, 1);
+                }
+                asked[call] = answer(x, call);
+            }
+            // a: 39 at 60 loses its tooth; b: 19 at 12 whole, worn to 50, two days on as told: 39 at 12, crumbs.
+            int[] due = {19, 10, 1, 10, 0, 1, 0, 2, 20, 20, 31, 0, 20, 1, 20, 51};
+            for (int call = 0; call < due.length; call++) {
+                Check.due("call " + call + " behind " + other, due[call], asked[call]);
+            }
+        }
+    }
+
+    private static int answer(JawBench x, int call) {
+        switch (call) {
+            case 0: return x.force(1, 1);
+            case 1: return x.slack(1, 1);
+            case 2: return x.verdict(1, 1);
+            case 3: return x.rest(1, 0);
+            case 4: return x.likely(0, 0);
+            case 5: return x.likely(0, 1);
+            case 6: return x.wholeBy(0);
+            case 7: return x.wholeBy(1);
+            case 8: return x.ahead(1, 4);
+            case 9: return x.order(5);
+            case 10: return x.enough(1, 1);
+            case 11: return x.spoil(1, 20);
+            case 12: return x.deal(1, 4);
+            case 13: return x.nextTooth();
+            case 14: return x.tried(0, 0, 99);
+            default: return x.ahead(2, 5);
+        }
+    }
+
     private static void nothingIsChanged() {
         JawBench x = Check.told(TestCourt.FOUR + "rest 2;");
         x.stone(2, true);
@@ -339,6 +400,7 @@ public final class TestThought {
         Check.due("as it was, the stone", 1, Check.suit(x, 2, 3));
         Check.due("as it was, no other stone", 0, Check.suit(x, 0, 3));
         Check.due("as it was, the judge", 0, Check.suit(x, 0, 0));
+        nothingStaysOtherwise();
         Check.due("nothing otherwise", 21, x.tried(0, 0, 2));
         Check.due("and a day as ever", 1, x.go(1));
         Check.due("its gain", 21, x.count(10));

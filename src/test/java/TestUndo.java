@@ -62,6 +62,19 @@ public final class TestUndo {
         Check.due("put off still", 3, Check.suit(x, 2, 2));
         Check.due("given back", 0, Check.suit(x, 3, 0));
         Check.due("no stone", 0, Check.suit(x, 1, 3));
+        // Each suit in turn is put to other days: behind the oldest, each one's own day comes back.
+        x = Check.told(TestCourt.FOUR);
+        for (int i = 0; i < 23; i++) {
+            x.put(i % 4, 10 + i);
+        }
+        for (int i = 22; i >= 3; i--) {
+            int before = i >= 4 ? 10 + i - 4 : 1;
+            Check.due("left of puts", i - 3, x.undo());
+            Check.due("day again of " + i % 4, before, Check.suit(x, i % 4, 2));
+        }
+        for (int i = 0; i < 3; i++) {
+            Check.due("the first three stay", 10 + i, Check.suit(x, i, 2));
+        }
     }
 
     private static void daysEndIt() {
