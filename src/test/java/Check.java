@@ -23,6 +23,10 @@ final class Check {
         due(what, want ? 1 : 0, got ? 1 : 0);
     }
 
+    static int wrongOnes() {
+        return wrong;
+    }
+
     /** Ends the test: exit code 1 if an answer was wrong. */
     static void end() {
         System.out.println(asked + " answers, " + wrong + " wrong");
@@ -61,6 +65,12 @@ final class Check {
         due("text " + text, which == 0 ? text.chars().filter(c -> c == ';').count() : -1, tell(x, text));
         due("fault(0) of " + text, which, x.fault(0));
         due("fault(1) of " + text, place, x.fault(1));
+    }
+
+    /** What an E is, by a law of force: of a judge with jaw 7 and 1 tooth at a nut 5 9 3 on day 0. */
+    static void value(String e, long due) {
+        JawBench x = told("judge a 7 1;nut n 5 9 3;law force " + e + ";");
+        due("value of " + e, due, x.law(0, 0, 0));
     }
 
     static int letters(String name) {

@@ -1,0 +1,67 @@
+import java.lang.reflect.InvocationTargetException;
+import java.lang.reflect.Method;
+import java.util.Arrays;
+import java.util.Comparator;
+import java.util.List;
+import java.util.function.IntUnaryOperator;
+
+/**
+ * Runs tests of boundary cases: each is a method with the document's words in {@link Says}, named
+ * promise, the promise's number, its name, and the case, joined by underlines.
+ */
+final class Edges {
+    private Edges() {
+    }
+
+    static List<Method> of(Class<?> tests) {
+        return Arrays.stream(tests.getDeclaredMethods())
+                .filter(m -> m.isAnnotationPresent(Says.class))
+                .sorted(Comparator.comparing(Method::getName))
+                .toList();
+    }
+
+    /** Each test counts by itself; one that throws has failed. */
+    static void run(Class<?> tests) {
+        int failed = 0;
+        List<Method> all = of(tests);
+        for (Method test : all) {
+            int before = Check.wrongOnes();
+            try {
+                test.invoke(null);
+            } catch (InvocationTargetException e) {
+                Check.due("thrown: " + e.getCause(), false, true);
+            } catch (IllegalAccessException e) {
+                Check.due("not to be called: " + e, false, true);
+            }
+            if (Check.wrongOnes() > before) {
+                failed++;
+                System.out.println("FAILED: " + test.getName());
+            }
+        }
+        System.out.println(all.size() + " edges, " + failed + " failed");
+        Check.end();
+    }
+
+    /** The call is refused just outside first .. last and far from it, and not refused at its ends. */
+    static void only(String what, int refused, int first, int last, IntUnaryOperator call) {
+        for (int n : new int[] {Integer.MIN_VALUE, first - 1, last + 1, Integer.MAX_VALUE}) {
+            Check.due(what + " " + n, refused, call.applyAsInt(n));
+        }
+        for (int n : new int[] {first, last}) {
+            Check.due(what + " " + n + " isn't refused", true, call.applyAsInt(n) != refused);
+        }
+    }
+
+    /** As above, for calls whose answers are true and false; each end is asked of a new object by the caller. */
+    static void refused(String what, IntUnaryOperator call, int answer, int... numbers) {
+        for (int n : numbers) {
+            Check.due(what + " " + n, answer, call.applyAsInt(n));
+        }
+    }
+
+    static void all(String what, int[] due, IntUnaryOperator call) {
+        for (int i = 0; i < due.length; i++) {
+            Check.due(what + " " + i, due[i], call.applyAsInt(i));
+        }
+    }
+}
