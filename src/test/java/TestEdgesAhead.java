@@ -60,6 +60,21 @@ public final class TestEdgesAhead {
         Check.due("day 9999 isn't", 0, x.ahead(99, 4));
     }
 
+    @Says("how many more are KEPT, WHOLE, HALVED, CRUMBS; GAIN more; LEVER then; TEETH of all then.")
+    static void promise18_ahead_isOfAllTenAndFour() {
+        // Each DAY has a suit, the last on day 9: loads aren't seen, forces come by days: 0, 10, .. 90 at 40.
+        StringBuilder ten = new StringBuilder("judge a 1 1;judge b 1 2;judge c 1 3;judge d 1 9;nut n 40 10 1;law force day*10;law wear 1;");
+        for (char c = 'a'; c <= 'j'; c++) {
+            ten.append("suit ").append(c).append(" d n ").append(c - 'a').append(";");
+        }
+        JawBench x = Check.told(ten.toString());
+        Edges.all("all ten days", new int[] {4, 1, 1, 4, 15, 44, 12}, what -> x.ahead(10, what));
+        Edges.all("nine of them", new int[] {4, 1, 1, 3, 15, 45, 12}, what -> x.ahead(9, what));
+        Edges.all("more than all", new int[] {4, 1, 1, 4, 15, 44, 12}, what -> x.ahead(99, what));
+        x.go(5);
+        Edges.all("the last five", new int[] {0, 0, 1, 4, 5, 44, 12}, what -> x.ahead(5, what));
+    }
+
     @Says("NONE: no such ones.")
     static void promise18_ahead_isNoneWithoutSuchOnes() {
         JawBench x = Check.told(FOUR);
@@ -100,6 +115,23 @@ public final class TestEdgesAhead {
         Edges.all("the least judge of each", new int[] {0, 1, 0, -2, 20}, what -> some.deal(1, what));
     }
 
+    @Says("of several the first by SUITS.")
+    static void promise19_deal_knowsNothingOfAnOrderOrADealAhead() {
+        JawBench x = Check.told("judge a 1 9;judge b 1 9;judge c 1 9;judge d 30 9;nut n 30 20 1;suit r a n 5;suit s a n 0;suit t a n 0;suit u a n 0;suit v a n 0;suit w a n 0;law wear 0;");
+        Edges.all("order", new int[] {1, 2, 3, 4, 5, 0}, x::order);
+        Edges.all("deal behind an order", new int[] {0, 3, 3, 3, 60}, what -> x.deal(1, what));
+        for (int s = 0; s < 6; s++) {
+            x.stone(s, true);
+        }
+        Edges.all("no gain at all: the first row", new int[] {0, 0, 0, 0, 0}, what -> x.deal(9, what));
+        Edges.all("order again", new int[] {1, 2, 3, 4, 5, 0}, x::order);
+        x.go(1);
+        Edges.all("one is left", new int[] {0, -2, -2, -2, 0}, what -> x.deal(9, what));
+        x.stone(0, false);
+        Edges.all("by the last judge", new int[] {3, -2, -2, -2, 20}, what -> x.deal(9, what));
+        Edges.all("none of this day", new int[] {-2, -2, -2, -2, -2, 0}, x::order);
+    }
+
     @Says("DEAL (n 1 .. 60), what 0 .. 3: the JUDGE of the first SUIT, and so on")
     static void promise19_deal_isOf1To60Days() {
         JawBench x = Check.told("judge a 10 9;judge b 30 9;nut n 30 20 1;suit r a n 0;suit s a n 59;law wear 0;");
@@ -116,7 +148,7 @@ public final class TestEdgesAhead {
     @Says("(-2: not so many), 4: GAIN.")
     static void promise19_deal_hasMinusTwoBehindTheLast() {
         StringBuilder text = new StringBuilder("judge a 30 9;nut n 30 20 1;law wear 0;");
-        for (int suits = 0; suits <= 6; suits++) {
+        for (int suits = 0; suits <= 10; suits++) {
             JawBench x = Check.told(text.toString());
             for (int what = 0; what < 4; what++) {
                 Check.due("what " + what + " of " + suits, what < suits ? 0 : -2, x.deal(1, what));
@@ -181,7 +213,7 @@ public final class TestEdgesAhead {
     @Says("ORDER, what 0 .. 4: the SUIT that is first, and so on (-2: not so many), 5: GAIN of this DAY.")
     static void promise20_order_hasMinusTwoBehindTheLast() {
         StringBuilder text = new StringBuilder("judge a 30 9;nut n 30 20 1;law wear 0;");
-        for (int suits = 0; suits <= 7; suits++) {
+        for (int suits = 0; suits <= 10; suits++) {
             JawBench x = Check.told(text.toString());
             for (int what = 0; what < 5; what++) {
                 Check.due("what " + what + " of " + suits, what < suits ? what : -2, x.order(what));

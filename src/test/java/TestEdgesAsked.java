@@ -144,6 +144,16 @@ public final class TestEdgesAsked {
         JawBench last = Check.told("judge a 1 1;judge b 1 1;judge c 1 1;judge d 30 1;nut n 30 9 1;suit s d n 0;suit t a n 0;");
         last.go(1);
         Check.due("the last one", 3, last.crown());
+        StringBuilder ten = new StringBuilder("judge a 30 1;judge b 30 1;nut n 30 9 1;law wear 0;");
+        for (char c = 'a'; c <= 'j'; c++) {
+            ten.append("suit ").append(c).append(c < 'f' ? " a n 0;" : " b n 0;");
+        }
+        JawBench full = Check.told(ten.toString());
+        full.put(0, 1);
+        full.go(1);
+        Check.due("four and five", 1, full.crown());
+        full.go(1);
+        Check.due("five and five", 0, full.crown());
     }
 
     @Says("NONE: no JUDGES.")
@@ -305,6 +315,35 @@ public final class TestEdgesAsked {
         JawBench lost = Check.told("judge a 40 1;nut n 60 9 1;nut m 40 31 1;suit s a n 0;suit t a m 0;");
         Check.due("a tooth lost on the way", 0, lost.tried(0, 0, 1));
         Check.due("doesn't halve", 31, lost.tried(4, 0, 1));
+    }
+
+    @Says("TRIED otherwise for n DAYS: GAIN more:")
+    static void promise36_tried_leavesNothingOtherwise() {
+        // a: 39 at 60 loses its tooth; b: 19 at 12 is whole; worn to 50, as told two days on.
+        JawBench x = Check.told("judge a 39 1;judge b 39 0;nut n 30 20 1;nut m 12 20 1;suit s a n 0;suit t b m 0;suit u a m 2;rest 2;lever 51;");
+        x.stone(0, true);
+        for (int other = 0; other <= 7; other++) {
+            for (int call = 0; call < 8; call++) {
+                int ahead = other <= 5 ? x.tried(other, 0, 9) : other == 6 ? x.chance(7, 5, 0) : x.levers();
+                Check.due("asked " + other, true, ahead >= 0);
+                switch (call) {
+                    case 0 -> Check.due("force behind " + other, 19, x.force(1, 1));
+                    case 1 -> Check.due("rest behind " + other, 10, x.rest(1, 0));
+                    case 2 -> Check.due("likely behind " + other, 0, x.likely(0, 0));
+                    case 3 -> Check.due("wholeBy behind " + other, 2, x.wholeBy(1));
+                    case 4 -> Check.due("wholeBy, stone, behind " + other, 0, x.wholeBy(0));
+                    case 5 -> Check.due("ahead behind " + other, 20, x.ahead(2, 4));
+                    case 6 -> Check.due("order behind " + other, 20, x.order(5));
+                    default -> Check.due("lever behind " + other, 51, x.ahead(2, 5));
+                }
+            }
+            Check.due("likely, b at m: 19 at 12, behind " + other, 4, x.likely(1, 0));
+            JawBench y = Check.told("judge a 39 1;nut n 9 20 1;nut m 30 21 1;suit s a n 0;suit t a m 0;");
+            Check.due("asked " + other, true, (other <= 5 ? y.tried(other, 0, 9) : other == 6 ? y.chance(7, 5, 0) : y.levers()) >= 0);
+            y.go(1);
+            Check.due("gone behind " + other, 21, y.count(10));
+            Check.due("worn behind " + other, 48, y.count(5));
+        }
     }
 
     @Says("TRIED otherwise (n 0 .. 99); NONE: no such ones (i 0 of all but 2).")

@@ -93,6 +93,20 @@ public final class TestEdgesCourt {
         Check.due("not by the first", 0, x.judge(1, 2));
     }
 
+    @Says("2 how many are TRIED by it so far, 3 of these WHOLE.")
+    static void promise7_judge_mayTryAllTen() {
+        StringBuilder ten = new StringBuilder("judge a 1 1;judge b 1 1;judge c 1 1;judge d 30 1;nut n 30 9 1;nut m 99 9 1;law wear 0;law slack 99;");
+        for (char c = 'a'; c <= 'j'; c++) {
+            ten.append("suit ").append(c).append(" d ").append(c < 'j' ? 'n' : 'm').append(" 0;");
+        }
+        JawBench x = Check.told(ten.toString());
+        x.go(1);
+        Check.due("all ten", 10, x.judge(3, 2));
+        Check.due("nine whole", 9, x.judge(3, 3));
+        Check.due("nobody else", 0, x.judge(0, 2));
+        Check.due("nobody else", 0, x.judge(2, 3));
+    }
+
     @Says("NONE: no such ones.")
     static void promise7_judge_isNoneWithoutSuchOnes() {
         JawBench x = Check.told(FOUR);

@@ -193,8 +193,12 @@ public final class TestEdgesFault {
         Check.fault("law force ((((((((not(1)))))))));", 2, 21);
         Check.fault("law force ((((((((1))))))));law wear ((((((((1))))))));", 0, -1);
         JawBench x = new JawBench();
-        Check.due("open ones of a fault", -1, Check.tell(x, "law force (((((((("));
-        Check.due("are no more", 1, Check.tell(x, "law force ((((((((1))))))));"));
+        for (int i = 0; i < 20; i++) {
+            Check.due("open ones of a fault", -1, Check.tell(x, "law force 1*(2+(3<(not (4 and (5 or (6-(7/("));
+            Check.due("at the length", 43, x.fault(1));
+        }
+        Check.due("are no more", 3, Check.tell(x, "judge a 1 1;nut n 1 1 1;law force ((((((((1))))))))+2*(3-1)*(1 or 0);"));
+        Check.due("nor their signs", 5, x.law(0, 0, 0));
     }
 
     @Says("a 65th KNOT of all E (N, NAMES, signs, not, and, or: one each).")

@@ -213,6 +213,38 @@ public final class TestEdgesText {
         Check.due("the image stays", 1, x.back());
     }
 
+    @Says("The TAPE's first n bytes (it is empty then) are the TEXT")
+    static void promise3_text_forgetsThoseAhead() {
+        String full = "judge a 10 2;judge b 10 2;nut n 31 9 3;nut m 1 1 1;suit s a n 0;suit t b m 4;lever 9;rest 3;seed 7;"
+                + "law force 7;law slack 8;law wear 9;";
+        String fault = "judge c 1 1;nut k 1 1 1;suit u c k 0;lever 5;rest 1;seed 1;law force 1+1;law slack 2;law wear #";
+        String bare = "judge a 10 0;nut n 5 1 1;";
+        JawBench x = new JawBench();
+        // More than two texts one behind another, with faults among them in every order.
+        for (int i = 0; i < 8; i++) {
+            for (int k = 0; k < i % 3; k++) {
+                Check.due("a fault", -1, Check.tell(x, fault));
+                Check.due("which", 1, x.fault(0));
+                Check.due("where", fault.length() - 1, x.fault(1));
+            }
+            Check.due("told whole", 12, Check.tell(x, full));
+            Edges.all("of the whole one", new int[] {2, 2, 2, 3, 0, 9}, x::count);
+            Check.due("told bare", 2, Check.tell(x, bare));
+            Edges.all("of the bare one", new int[] {1, 1, 0, 0, 0, 50}, x::count);
+            Check.due("no teeth", 0, x.judge(0, 1));
+            Check.due("no second judge", -1, x.named(0, Check.letters("b")));
+            Check.due("no force", 5, x.force(0, 0));
+            Check.due("no slack", 10, x.slack(0, 0));
+            Check.due("no wear", Long.MIN_VALUE, x.law(2, 0, 0));
+            x.oil(1);
+            Check.due("no vacation", 51, x.ahead(99, 5));
+            if (i % 2 == 0) {
+                Check.due("bare again", 2, Check.tell(x, bare));
+                Edges.all("of the second bare one", new int[] {1, 1, 0, 0, 0, 50}, x::count);
+            }
+        }
+    }
+
     @Says("-2, and the TAPE stays: there are not so many, n is below 0.")
     static void promise3_text_isNotReadBeyondTheTape() {
         JawBench x = new JawBench();

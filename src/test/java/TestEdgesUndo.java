@@ -231,6 +231,13 @@ public final class TestEdgesUndo {
             Edges.all("on day " + x.count(4), row, what -> x.count(6 + what));
             x.go(1);
         }
+        StringBuilder ten = new StringBuilder("judge a 50 9;nut n 0 99 1;nut m 50 99 1;law wear 0;");
+        for (char c = 'a'; c <= 'j'; c++) {
+            ten.append("suit ").append(c).append(c < 'f' ? " a n 0;" : " a m 0;");
+        }
+        JawBench full = Check.told(ten.toString());
+        full.go(1);
+        Edges.all("all ten", new int[] {0, 5, 0, 5, 495, 495, 0}, what -> full.count(6 + what));
         JawBench none = Check.told("judge a 50 9;nut n 50 0 1;nut m 40 1 1;suit s a n 0;suit t a m 0;law wear 0;");
         none.go(1);
         Check.due("half of 1 is 0", 0, none.count(10));
