@@ -10,6 +10,10 @@ import java.util.function.IntUnaryOperator;
  * promise, the promise's number, its name, and the case, joined by underlines.
  */
 final class Edges {
+    /** Day 0: halved (21 by 2), whole; day 1: kept, crumbs. */
+    static final String FOUR = "judge ned 40 2;judge gus 20 0;nut wal 30 21 1;nut haz 8 11 0;"
+            + "suit a ned wal 0;suit b gus haz 0;suit c gus wal 1;suit d ned haz 1;";
+
     private Edges() {
     }
 
@@ -52,11 +56,20 @@ final class Edges {
         }
     }
 
-    /** As above, for calls whose answers are true and false; each end is asked of a new object by the caller. */
-    static void refused(String what, IntUnaryOperator call, int answer, int... numbers) {
+    /** The call has one and the same answer for all these numbers. */
+    static void same(String what, IntUnaryOperator call, int answer, int... numbers) {
         for (int n : numbers) {
             Check.due(what + " " + n, answer, call.applyAsInt(n));
         }
+    }
+
+    /** The LINES of suits first .. last, named a, b and so on, all alike. */
+    static String suits(int first, int last, String told) {
+        StringBuilder lines = new StringBuilder();
+        for (int i = first; i <= last; i++) {
+            lines.append("suit ").append((char) ('a' + i)).append(' ').append(told).append(';');
+        }
+        return lines.toString();
     }
 
     static void all(String what, int[] due, IntUnaryOperator call) {

@@ -1,9 +1,5 @@
 /** Promises 18 to 24 at their boundaries: ahead, deal, order, enough, spoil, rests, rest. */
 public final class TestEdgesAhead {
-    /** Day 0: halved (21 by 2), whole; day 1: kept, crumbs. */
-    private static final String FOUR = "judge ned 40 2;judge gus 20 0;nut wal 30 21 1;nut haz 8 11 0;"
-            + "suit a ned wal 0;suit b gus haz 0;suit c gus wal 1;suit d ned haz 1;";
-
     public static void main(String[] args) {
         Edges.run(TestEdgesAhead.class);
     }
@@ -13,7 +9,7 @@ public final class TestEdgesAhead {
     @Says({"AHEAD for n DAYS: how many more are KEPT, WHOLE, HALVED, CRUMBS; GAIN more; LEVER then; TEETH of all then.",
         "what 0 KEPT, 1 WHOLE, 2 HALVED, 3 CRUMBS, 4 GAIN, 5 LEVER, 6 TEETH."})
     static void promise18_ahead_isWhatIsMoreThen() {
-        JawBench x = Check.told(FOUR);
+        JawBench x = Check.told(Edges.FOUR);
         int[][] due = {{0, 0, 0, 0, 0, 50, 2}, {0, 1, 1, 0, 21, 48, 2}, {1, 1, 1, 1, 21, 47, 2}, {1, 1, 1, 1, 21, 47, 2}};
         int[] n = {0, 1, 2, 99};
         for (int i = 0; i < n.length; i++) {
@@ -35,7 +31,7 @@ public final class TestEdgesAhead {
 
     @Says("AHEAD (n 0 .. 99),")
     static void promise18_ahead_isOf0To99Days() {
-        JawBench x = Check.told(FOUR);
+        JawBench x = Check.told(Edges.FOUR);
         for (int what = 0; what <= 6; what++) {
             int of = what;
             Edges.only("n of what " + what, -1, 0, 99, n -> x.ahead(n, of));
@@ -63,11 +59,11 @@ public final class TestEdgesAhead {
     @Says("how many more are KEPT, WHOLE, HALVED, CRUMBS; GAIN more; LEVER then; TEETH of all then.")
     static void promise18_ahead_isOfAllTenAndFour() {
         // Each DAY has a suit, the last on day 9: loads aren't seen, forces come by days: 0, 10, .. 90 at 40.
-        StringBuilder ten = new StringBuilder("judge a 1 1;judge b 1 2;judge c 1 3;judge d 1 9;nut n 40 10 1;law force day*10;law wear 1;");
-        for (char c = 'a'; c <= 'j'; c++) {
-            ten.append("suit ").append(c).append(" d n ").append(c - 'a').append(";");
+        String ten = "judge a 1 1;judge b 1 2;judge c 1 3;judge d 1 9;nut n 40 10 1;law force day*10;law wear 1;";
+        for (int day = 0; day < 10; day++) {
+            ten += Edges.suits(day, day, "d n " + day);
         }
-        JawBench x = Check.told(ten.toString());
+        JawBench x = Check.told(ten);
         Edges.all("all ten days", new int[] {4, 1, 1, 4, 15, 44, 12}, what -> x.ahead(10, what));
         Edges.all("nine of them", new int[] {4, 1, 1, 3, 15, 45, 12}, what -> x.ahead(9, what));
         Edges.all("more than all", new int[] {4, 1, 1, 4, 15, 44, 12}, what -> x.ahead(99, what));
@@ -77,7 +73,7 @@ public final class TestEdgesAhead {
 
     @Says("NONE: no such ones.")
     static void promise18_ahead_isNoneWithoutSuchOnes() {
-        JawBench x = Check.told(FOUR);
+        JawBench x = Check.told(Edges.FOUR);
         for (int n : new int[] {0, 1, 99}) {
             Edges.only("what in " + n, -1, 0, 6, what -> x.ahead(n, what));
         }
@@ -147,20 +143,18 @@ public final class TestEdgesAhead {
 
     @Says("(-2: not so many), 4: GAIN.")
     static void promise19_deal_hasMinusTwoBehindTheLast() {
-        StringBuilder text = new StringBuilder("judge a 30 9;nut n 30 20 1;law wear 0;");
         for (int suits = 0; suits <= 10; suits++) {
-            JawBench x = Check.told(text.toString());
+            JawBench x = Check.told("judge a 30 9;nut n 30 20 1;law wear 0;" + Edges.suits(0, suits - 1, "a n 0"));
             for (int what = 0; what < 4; what++) {
                 Check.due("what " + what + " of " + suits, what < suits ? 0 : -2, x.deal(1, what));
             }
             Check.due("gain of " + suits, 20 * suits, x.deal(1, 4));
-            text.append("suit ").append((char) ('a' + suits)).append(" a n 0;");
         }
     }
 
     @Says("NONE: no such ones, no JUDGES.")
     static void promise19_deal_isNoneWithoutJudges() {
-        JawBench x = Check.told(FOUR);
+        JawBench x = Check.told(Edges.FOUR);
         Edges.only("what", -1, 0, 4, what -> x.deal(1, what));
         JawBench none = Check.told("nut n 1 1 1;");
         Edges.all("no judges", new int[] {-1, -1, -1, -1, -1, -1}, what -> none.deal(1, what));
@@ -203,7 +197,7 @@ public final class TestEdgesAhead {
         // Only the third must be second: 0 2 1 comes ahead of 1 2 0.
         JawBench third = Check.told("judge a 1 9;nut n 99 7 1;nut m 10 8 1;suit s a n 0;suit t a n 0;suit u a m 0;law force load*10;law slack 1;law wear 0;");
         Edges.all("the third is second", new int[] {0, 2, 1, -2, -2, 8}, third::order);
-        JawBench worn = Check.told(FOUR);
+        JawBench worn = Check.told(Edges.FOUR);
         Edges.all("worn ahead of it, 40 at 30 is whole", new int[] {1, 0, -2, -2, -2, 32}, worn::order);
         worn.go(1);
         Edges.all("gain of this day alone", new int[] {2, 3, -2, -2, -2, 0}, worn::order);
@@ -212,20 +206,18 @@ public final class TestEdgesAhead {
 
     @Says("ORDER, what 0 .. 4: the SUIT that is first, and so on (-2: not so many), 5: GAIN of this DAY.")
     static void promise20_order_hasMinusTwoBehindTheLast() {
-        StringBuilder text = new StringBuilder("judge a 30 9;nut n 30 20 1;law wear 0;");
         for (int suits = 0; suits <= 10; suits++) {
-            JawBench x = Check.told(text.toString());
+            JawBench x = Check.told("judge a 30 9;nut n 30 20 1;law wear 0;" + Edges.suits(0, suits - 1, "a n 0"));
             for (int what = 0; what < 5; what++) {
                 Check.due("what " + what + " of " + suits, what < suits ? what : -2, x.order(what));
             }
             Check.due("gain of " + suits, 20 * suits, x.order(5));
-            text.append("suit ").append((char) ('a' + suits)).append(" a n 0;");
         }
     }
 
     @Says("NONE for another what.")
     static void promise20_order_isNoneForAnotherWhat() {
-        JawBench x = Check.told(FOUR);
+        JawBench x = Check.told(Edges.FOUR);
         Edges.only("what", -1, 0, 5, x::order);
         Edges.only("what of none", -1, 0, 5, new JawBench()::order);
     }
@@ -295,11 +287,7 @@ public final class TestEdgesAhead {
         Check.due("tried ones don't", 8, x.spoil(1, 29));
         Check.due("gain more alone", 0, x.spoil(1, 30));
         Check.due("no stone is put in", 0, Check.suit(x, 3, 3));
-        StringBuilder ten = new StringBuilder("judge a 30 9;nut n 30 99 1;law wear 0;law slack 20;law force 30;");
-        for (char c = 'a'; c <= 'j'; c++) {
-            ten.append("suit ").append(c).append(" a n 0;");
-        }
-        JawBench all = Check.told(ten.toString());
+        JawBench all = Check.told("judge a 30 9;nut n 30 99 1;law wear 0;law slack 20;law force 30;" + Edges.suits(0, 9, "a n 0"));
         Check.due("all ten", 1023, all.spoil(1, 0));
         Check.due("nine of ten, the least", 511, all.spoil(1, 99));
         Check.due("one of ten", 1, all.spoil(1, 989));
@@ -356,7 +344,7 @@ public final class TestEdgesAhead {
 
     @Says("How many RESTS SETTLE has; NONE: no such SUIT, TRIED.")
     static void promise23_rests_isNoneWithoutSuchASuit() {
-        JawBench x = Check.told(FOUR);
+        JawBench x = Check.told(Edges.FOUR);
         Edges.only("suit", -1, 0, 3, x::rests);
         x.go(1);
         Edges.all("tried", new int[] {-1, -1, 1, 1}, x::rests);
@@ -380,8 +368,8 @@ public final class TestEdgesAhead {
 
     @Says("NONE likewise, k is below 0.")
     static void promise24_rest_isNoneBelow0() {
-        JawBench x = Check.told(FOUR);
-        Edges.refused("k", k -> x.rest(0, k), -1, Integer.MIN_VALUE, -2, -1);
+        JawBench x = Check.told(Edges.FOUR);
+        Edges.same("k", k -> x.rest(0, k), -1, Integer.MIN_VALUE, -2, -1);
         Edges.only("suit", -1, 0, 3, s -> x.rest(s, 0));
         Check.due("no such suit, too many", -1, x.rest(4, 9));
         x.go(1);

@@ -2,10 +2,6 @@ import java.math.BigInteger;
 
 /** Promises 25 to 30, 35 and 36 at their boundaries: twins, likely, wholeBy, docket, crown, nextTooth, chance, tried. */
 public final class TestEdgesAsked {
-    /** Day 0: halved (21 by 2), whole; day 1: kept, crumbs. */
-    private static final String FOUR = "judge ned 40 2;judge gus 20 0;nut wal 30 21 1;nut haz 8 11 0;"
-            + "suit a ned wal 0;suit b gus haz 0;suit c gus wal 1;suit d ned haz 1;";
-
     public static void main(String[] args) {
         Edges.run(TestEdgesAsked.class);
     }
@@ -22,11 +18,7 @@ public final class TestEdgesAsked {
             Check.due("on day " + day, due[day], x.twins());
             x.go(1);
         }
-        StringBuilder ten = new StringBuilder("judge a 1 9;nut n 10 9 1;law force load*5;law wear 0;");
-        for (char c = 'a'; c <= 'j'; c++) {
-            ten.append("suit ").append(c).append(" a n 0;");
-        }
-        JawBench many = Check.told(ten.toString());
+        JawBench many = Check.told("judge a 1 9;nut n 10 9 1;law force load*5;law wear 0;" + Edges.suits(0, 9, "a n 0"));
         many.go(1);
         // Two kept, two whole, two halved, four crumbs: 45 pairs, 1 + 1 + 1 + 6 of them alike.
         Check.due("ten of one nut", 36, many.twins());
@@ -59,7 +51,7 @@ public final class TestEdgesAsked {
 
     @Says("NONE: no such ones, TRIED.")
     static void promise26_likely_isNoneWithoutSuchOnes() {
-        JawBench x = Check.told(FOUR);
+        JawBench x = Check.told(Edges.FOUR);
         for (int k = 0; k < 2; k++) {
             int fixed = k;
             Edges.only("suit of what " + k, -1, 0, 3, s -> x.likely(s, fixed));
@@ -92,7 +84,7 @@ public final class TestEdgesAsked {
 
     @Says("NONE: no such SUIT, TRIED.")
     static void promise27_wholeBy_isNoneWithoutSuchASuit() {
-        JawBench x = Check.told(FOUR);
+        JawBench x = Check.told(Edges.FOUR);
         Edges.only("suit", -1, 0, 3, x::wholeBy);
         x.go(1);
         Check.due("tried", -1, x.wholeBy(0));
@@ -105,7 +97,7 @@ public final class TestEdgesAsked {
 
     @Says("SUITS (bits) that are put to a DAY 0 .. 9999 and aren't TRIED;")
     static void promise28_docket_isOfADay() {
-        JawBench x = Check.told(FOUR);
+        JawBench x = Check.told(Edges.FOUR);
         Edges.all("days", new int[] {3, 12, 0, 0}, x::docket);
         x.put(0, 9999);
         x.put(3, 9998);
@@ -115,16 +107,14 @@ public final class TestEdgesAsked {
         Check.due("day 9999", 1, x.docket(9999));
         x.go(1);
         Edges.all("tried ones aren't there", new int[] {0, 4, 0}, x::docket);
-        StringBuilder ten = new StringBuilder("judge a 1 9;nut n 10 9 1;");
-        for (char c = 'a'; c <= 'j'; c++) {
-            ten.append("suit ").append(c).append(" a n 99;");
-        }
-        Edges.refused("all ten", Check.told(ten.toString())::docket, 1023, 99);
+        JawBench full = Check.told("judge a 1 9;nut n 10 9 1;" + Edges.suits(0, 9, "a n 99"));
+        Check.due("all ten", 1023, full.docket(99));
+        Check.due("none of them", 0, full.docket(98));
     }
 
     @Says("NONE: no such DAY.")
     static void promise28_docket_isNoneWithoutSuchADay() {
-        JawBench x = Check.told(FOUR);
+        JawBench x = Check.told(Edges.FOUR);
         Edges.only("day", -1, 0, 9999, x::docket);
         x.go(5);
         Edges.only("day from 5 on", -1, 0, 9999, x::docket);
@@ -144,11 +134,7 @@ public final class TestEdgesAsked {
         JawBench last = Check.told("judge a 1 1;judge b 1 1;judge c 1 1;judge d 30 1;nut n 30 9 1;suit s d n 0;suit t a n 0;");
         last.go(1);
         Check.due("the last one", 3, last.crown());
-        StringBuilder ten = new StringBuilder("judge a 30 1;judge b 30 1;nut n 30 9 1;law wear 0;");
-        for (char c = 'a'; c <= 'j'; c++) {
-            ten.append("suit ").append(c).append(c < 'f' ? " a n 0;" : " b n 0;");
-        }
-        JawBench full = Check.told(ten.toString());
+        JawBench full = Check.told("judge a 30 1;judge b 30 1;nut n 30 9 1;law wear 0;" + Edges.suits(0, 4, "a n 0") + Edges.suits(5, 9, "b n 0"));
         full.put(0, 1);
         full.go(1);
         Check.due("four and five", 1, full.crown());
@@ -256,9 +242,9 @@ public final class TestEdgesAsked {
 
     @Says("NONE: no such ones.")
     static void promise35_chance_isNoneWithoutSuchOnes() {
-        JawBench x = Check.told(FOUR);
-        Edges.refused("seed", seed -> x.chance(seed, 1, 0), -1, Integer.MIN_VALUE, -2, -1);
-        Edges.refused("seed", seed -> x.chance(seed, 1, 0), 10, 0, 1, Integer.MAX_VALUE);
+        JawBench x = Check.told(Edges.FOUR);
+        Edges.same("seed", seed -> x.chance(seed, 1, 0), -1, Integer.MIN_VALUE, -2, -1);
+        Edges.same("seed", seed -> x.chance(seed, 1, 0), 10, 0, 1, Integer.MAX_VALUE);
         Edges.only("n", -1, 1, 99, n -> x.chance(1, n, 0));
         Edges.only("gain", -1, 0, 999, gain -> x.chance(1, 1, gain));
     }
@@ -338,7 +324,7 @@ public final class TestEdgesAsked {
                 }
             }
             Check.due("likely, b at m: 19 at 12, behind " + other, 4, x.likely(1, 0));
-            JawBench y = Check.told("judge a 39 1;nut n 9 20 1;nut m 30 21 1;suit s a n 0;suit t a m 0;");
+            JawBench y = Check.told("judge a 39 1;nut n 9 20 1;nut m 38 21 1;suit s a n 0;suit t a m 0;");
             Check.due("asked " + other, true, (other <= 5 ? y.tried(other, 0, 9) : other == 6 ? y.chance(7, 5, 0) : y.levers()) >= 0);
             y.go(1);
             Check.due("gone behind " + other, 21, y.count(10));
@@ -348,7 +334,7 @@ public final class TestEdgesAsked {
 
     @Says("TRIED otherwise (n 0 .. 99); NONE: no such ones (i 0 of all but 2).")
     static void promise36_tried_isNoneWithoutSuchOnes() {
-        JawBench x = Check.told(FOUR);
+        JawBench x = Check.told(Edges.FOUR);
         Edges.only("what", -1, 0, 5, what -> x.tried(what, 0, 1));
         for (int what = 0; what <= 5; what++) {
             int of = what;

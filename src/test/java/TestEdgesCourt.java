@@ -1,8 +1,5 @@
 /** Promises 6 to 12 at their boundaries: suit, judge, nut, force, slack, verdict, law. */
 public final class TestEdgesCourt {
-    /** Day 0: halved (21 by 2), whole; day 1: kept, crumbs. */
-    private static final String FOUR = "judge ned 40 2;judge gus 20 0;nut wal 30 21 1;nut haz 8 11 0;"
-            + "suit a ned wal 0;suit b gus haz 0;suit c gus wal 1;suit d ned haz 1;";
     private static final String PAIR = "judge a 7 1;judge b 7 0;nut n 5 9 3;nut m 0 1 0;";
 
     public static void main(String[] args) {
@@ -13,7 +10,7 @@ public final class TestEdgesCourt {
 
     @Says("Of a SUIT now, what 0 the JUDGE, 1 the NUT, 2 the DAY, 3 whether a STONE is in (1, 0),")
     static void promise6_suit_isAsItIsNow() {
-        JawBench x = Check.told(FOUR);
+        JawBench x = Check.told(Edges.FOUR);
         int[][] due = {{0, 0, 0, 0, -1, 0}, {1, 1, 0, 0, -1, 0}, {1, 0, 1, 0, -1, 0}, {0, 1, 1, 0, -1, 0}};
         for (int s = 0; s < 4; s++) {
             int suit = s;
@@ -30,7 +27,7 @@ public final class TestEdgesCourt {
 
     @Says("4 its VERDICT (NONE: not TRIED),")
     static void promise6_suit_hasNoVerdictUntilTried() {
-        JawBench x = Check.told(FOUR);
+        JawBench x = Check.told(Edges.FOUR);
         int[][] due = {{-1, -1, -1, -1}, {2, 1, -1, -1}, {2, 1, 0, 3}};
         for (int day = 0; day < 3; day++) {
             Edges.all("verdicts on day " + day, due[day], s -> Check.suit(x, s, 4));
@@ -40,7 +37,7 @@ public final class TestEdgesCourt {
 
     @Says("5 GAIN of it (0 if not TRIED).")
     static void promise6_suit_hasNoGainUntilTried() {
-        JawBench x = Check.told(FOUR);
+        JawBench x = Check.told(Edges.FOUR);
         int[][] due = {{0, 0, 0, 0}, {10, 11, 0, 0}, {10, 11, 0, 0}};
         for (int day = 0; day < 3; day++) {
             Edges.all("gains on day " + day, due[day], s -> Check.suit(x, s, 5));
@@ -50,7 +47,7 @@ public final class TestEdgesCourt {
 
     @Says("IndexOutOfBoundsException: no such SUIT.")
     static void promise6_suit_throwsWithoutSuchASuit() {
-        JawBench x = Check.told(FOUR);
+        JawBench x = Check.told(Edges.FOUR);
         for (int what = 0; what <= 5; what++) {
             int of = what;
             Edges.only("suit of what " + what, Check.INDEX_OUT_OF_BOUNDS, 0, 3, s -> Check.suit(x, s, of));
@@ -64,7 +61,7 @@ public final class TestEdgesCourt {
 
     @Says("NoSuchElementException: no such what.")
     static void promise6_suit_throwsWithoutSuchAWhat() {
-        JawBench x = Check.told(FOUR);
+        JawBench x = Check.told(Edges.FOUR);
         for (int s = 0; s < 4; s++) {
             int suit = s;
             Edges.only("what of suit " + s, Check.NO_SUCH_ELEMENT, 0, 5, what -> Check.suit(x, suit, what));
@@ -77,7 +74,7 @@ public final class TestEdgesCourt {
 
     @Says("Of a JUDGE now, what 0 JAW, 1 TEETH, 2 how many are TRIED by it so far, 3 of these WHOLE.")
     static void promise7_judge_isAsItIsNow() {
-        JawBench x = Check.told(FOUR + "judge idle 99 9;nut e 61 9 9;suit e ned e 2;");
+        JawBench x = Check.told(Edges.FOUR + "judge idle 99 9;nut e 61 9 9;suit e ned e 2;");
         int[][] ned = {{40, 2, 0, 0}, {40, 2, 1, 0}, {40, 2, 2, 0}, {40, 1, 3, 0}};
         int[][] gus = {{20, 0, 0, 0}, {20, 0, 1, 1}, {20, 0, 2, 1}, {20, 0, 2, 1}};
         for (int day = 0; day < 4; day++) {
@@ -86,7 +83,7 @@ public final class TestEdgesCourt {
             Edges.all("idle on day " + day, new int[] {99, 9, 0, 0}, what -> x.judge(2, what));
             x.go(1);
         }
-        Check.tell(x, FOUR);
+        Check.tell(x, Edges.FOUR);
         x.give(1, 0);
         x.go(1);
         Check.due("given ones are tried by the other", 2, x.judge(0, 2));
@@ -95,11 +92,8 @@ public final class TestEdgesCourt {
 
     @Says("2 how many are TRIED by it so far, 3 of these WHOLE.")
     static void promise7_judge_mayTryAllTen() {
-        StringBuilder ten = new StringBuilder("judge a 1 1;judge b 1 1;judge c 1 1;judge d 30 1;nut n 30 9 1;nut m 99 9 1;law wear 0;law slack 99;");
-        for (char c = 'a'; c <= 'j'; c++) {
-            ten.append("suit ").append(c).append(" d ").append(c < 'j' ? 'n' : 'm').append(" 0;");
-        }
-        JawBench x = Check.told(ten.toString());
+        JawBench x = Check.told("judge a 1 1;judge b 1 1;judge c 1 1;judge d 30 1;nut n 30 9 1;nut m 99 9 1;law wear 0;law slack 99;"
+                + Edges.suits(0, 8, "d n 0") + Edges.suits(9, 9, "d m 0"));
         x.go(1);
         Check.due("all ten", 10, x.judge(3, 2));
         Check.due("nine whole", 9, x.judge(3, 3));
@@ -109,7 +103,7 @@ public final class TestEdgesCourt {
 
     @Says("NONE: no such ones.")
     static void promise7_judge_isNoneWithoutSuchOnes() {
-        JawBench x = Check.told(FOUR);
+        JawBench x = Check.told(Edges.FOUR);
         for (int k = 0; k < 4; k++) {
             int fixed = k;
             Edges.only("judge of what " + k, -1, 0, 1, judge -> x.judge(judge, fixed));
@@ -127,7 +121,7 @@ public final class TestEdgesCourt {
 
     @Says("Of a NUT, what 0 HARD, 1 WORTH, 2 BITTER.")
     static void promise8_nut_isAsTold() {
-        JawBench x = Check.told(FOUR + "nut e 0 0 0;nut f 99 99 9;");
+        JawBench x = Check.told(Edges.FOUR + "nut e 0 0 0;nut f 99 99 9;");
         int[][] due = {{30, 21, 1}, {8, 11, 0}, {0, 0, 0}, {99, 99, 9}};
         for (int k = 0; k < 2; k++) {
             for (int n = 0; n < 4; n++) {
@@ -142,7 +136,7 @@ public final class TestEdgesCourt {
 
     @Says("NONE: no such ones.")
     static void promise8_nut_isNoneWithoutSuchOnes() {
-        JawBench x = Check.told(FOUR);
+        JawBench x = Check.told(Edges.FOUR);
         for (int k = 0; k < 3; k++) {
             int fixed = k;
             Edges.only("nut of what " + k, -1, 0, 1, nut -> x.nut(nut, fixed));

@@ -1,8 +1,5 @@
 /** Promises 13 to 17 at their boundaries: give, stone, put, oil, go, and what a DAY does. */
 public final class TestEdgesDeeds {
-    private static final String FOUR = "judge ned 40 2;judge gus 20 0;nut wal 30 21 1;nut haz 8 11 0;"
-            + "suit a ned wal 0;suit b gus haz 0;suit c gus wal 1;suit d ned haz 1;";
-
     public static void main(String[] args) {
         Edges.run(TestEdgesDeeds.class);
     }
@@ -11,7 +8,7 @@ public final class TestEdgesDeeds {
 
     @Says("A SUIT that isn't TRIED is before a JUDGE from now on: true;")
     static void promise13_give_putsASuitBeforeAJudge() {
-        JawBench x = Check.told(FOUR);
+        JawBench x = Check.told(Edges.FOUR);
         Check.due("the first suit to the last judge", true, x.give(0, 1));
         Check.due("the last suit to the last judge", true, x.give(3, 1));
         Check.due("the last suit to the first judge", true, x.give(3, 0));
@@ -23,9 +20,9 @@ public final class TestEdgesDeeds {
 
     @Says("false: no such ones, TRIED, it is so.")
     static void promise13_give_isRefused() {
-        JawBench x = Check.told(FOUR);
-        Edges.refused("suit", s -> x.give(s, 1) ? 1 : 0, 0, Integer.MIN_VALUE, -1, 4, 9, 10, Integer.MAX_VALUE);
-        Edges.refused("judge", j -> x.give(0, j) ? 1 : 0, 0, Integer.MIN_VALUE, -1, 2, 3, 4, Integer.MAX_VALUE);
+        JawBench x = Check.told(Edges.FOUR);
+        Edges.same("suit", s -> x.give(s, 1) ? 1 : 0, 0, Integer.MIN_VALUE, -1, 4, 9, 10, Integer.MAX_VALUE);
+        Edges.same("judge", j -> x.give(0, j) ? 1 : 0, 0, Integer.MIN_VALUE, -1, 2, 3, 4, Integer.MAX_VALUE);
         Check.due("it is so", false, x.give(0, 0));
         Check.due("it is so", false, x.give(1, 1));
         x.go(1);
@@ -40,11 +37,7 @@ public final class TestEdgesDeeds {
 
     @Says("A STONE is in a SUIT that isn't TRIED, or no more: true;")
     static void promise14_stone_isInOrNoMore() {
-        StringBuilder ten = new StringBuilder("judge a 1 0;nut n 1 0 0;");
-        for (char c = 'a'; c <= 'j'; c++) {
-            ten.append("suit ").append(c).append(" a n 1;");
-        }
-        JawBench x = Check.told(ten.toString());
+        JawBench x = Check.told("judge a 1 0;nut n 1 0 0;" + Edges.suits(0, 9, "a n 1"));
         for (int s : new int[] {0, 4, 9}) {
             Check.due("in " + s, true, x.stone(s, true));
         }
@@ -57,9 +50,9 @@ public final class TestEdgesDeeds {
 
     @Says("false: no such one, TRIED, it is so.")
     static void promise14_stone_isRefused() {
-        JawBench x = Check.told(FOUR);
-        Edges.refused("in", s -> x.stone(s, true) ? 1 : 0, 0, Integer.MIN_VALUE, -1, 4, 9, 10, 32, Integer.MAX_VALUE);
-        Edges.refused("out", s -> x.stone(s, false) ? 1 : 0, 0, Integer.MIN_VALUE, -1, 0, 3, 4, 10, Integer.MAX_VALUE);
+        JawBench x = Check.told(Edges.FOUR);
+        Edges.same("in", s -> x.stone(s, true) ? 1 : 0, 0, Integer.MIN_VALUE, -1, 4, 9, 10, 32, Integer.MAX_VALUE);
+        Edges.same("out", s -> x.stone(s, false) ? 1 : 0, 0, Integer.MIN_VALUE, -1, 0, 3, 4, 10, Integer.MAX_VALUE);
         x.stone(0, true);
         Check.due("it is so", false, x.stone(0, true));
         x.go(1);
@@ -90,7 +83,7 @@ public final class TestEdgesDeeds {
 
     @Says("A SUIT that isn't TRIED is put to a DAY from today on, 9999 at most: true;")
     static void promise15_put_isFromTodayTo9999() {
-        JawBench x = Check.told(FOUR);
+        JawBench x = Check.told(Edges.FOUR);
         x.go(1);
         Check.due("tomorrow", true, x.put(2, 2));
         Check.due("today", true, x.put(2, 1));
@@ -110,12 +103,12 @@ public final class TestEdgesDeeds {
 
     @Says("false: no such ones, TRIED, it is on that DAY.")
     static void promise15_put_isRefused() {
-        JawBench x = Check.told(FOUR);
-        Edges.refused("day", day -> x.put(3, day) ? 1 : 0, 0, Integer.MIN_VALUE, -1, 1, 10000, 10001, Integer.MAX_VALUE);
-        Edges.refused("suit", s -> x.put(s, 5) ? 1 : 0, 0, Integer.MIN_VALUE, -1, 4, 9, 10, Integer.MAX_VALUE);
+        JawBench x = Check.told(Edges.FOUR);
+        Edges.same("day", day -> x.put(3, day) ? 1 : 0, 0, Integer.MIN_VALUE, -1, 1, 10000, 10001, Integer.MAX_VALUE);
+        Edges.same("suit", s -> x.put(s, 5) ? 1 : 0, 0, Integer.MIN_VALUE, -1, 4, 9, 10, Integer.MAX_VALUE);
         Check.due("it is on day 0", false, x.put(0, 0));
         x.go(1);
-        Edges.refused("day from 1 on", day -> x.put(3, day) ? 1 : 0, 0, Integer.MIN_VALUE, -1, 0, 1, 10000, Integer.MAX_VALUE);
+        Edges.same("day from 1 on", day -> x.put(3, day) ? 1 : 0, 0, Integer.MIN_VALUE, -1, 0, 1, 10000, Integer.MAX_VALUE);
         Check.due("tried", false, x.put(0, 5));
         x.put(3, 9999);
         Check.due("it is on day 9999", false, x.put(3, 9999));
@@ -140,7 +133,7 @@ public final class TestEdgesDeeds {
     @Says("NONE: no such number, it would be above 99.")
     static void promise16_oil_isRefusedAbove99() {
         JawBench x = Check.told("lever 1;");
-        Edges.refused("oil", x::oil, -1, Integer.MIN_VALUE, -1, 0, 99, 100, Integer.MAX_VALUE);
+        Edges.same("oil", x::oil, -1, Integer.MIN_VALUE, -1, 0, 99, 100, Integer.MAX_VALUE);
         for (int lever : new int[] {2, 50, 97, 98}) {
             JawBench y = Check.told("lever " + lever + ";");
             Check.due("beyond 99 from " + lever, -1, y.oil(100 - lever));
@@ -149,14 +142,14 @@ public final class TestEdgesDeeds {
             Check.due("to 99 from " + lever, 99, y.oil(99 - lever));
         }
         JawBench y = Check.told("lever 99;");
-        Edges.refused("oil at 99", y::oil, -1, 0, 1, 98, 99);
+        Edges.same("oil at 99", y::oil, -1, 0, 1, 98, 99);
     }
 
     // ---- 17: go
 
     @Says("So many DAYS (0 .. 99) go by: which one it is;")
     static void promise17_go_isFrom0To99Days() {
-        JawBench x = Check.told(FOUR);
+        JawBench x = Check.told(Edges.FOUR);
         Check.due("none", 0, x.go(0));
         Check.due("none is tried by none", -1, Check.suit(x, 0, 4));
         Check.due("one", 1, x.go(1));
@@ -168,10 +161,32 @@ public final class TestEdgesDeeds {
         Check.due("the day", 198, x.count(4));
     }
 
+    @Says("So many DAYS (0 .. 99) go by: which one it is;")
+    static void promise17_go_passesTenDaysWithSuits() {
+        for (int apart : new int[] {1, 2, 9, 10}) {
+            StringBuilder text = new StringBuilder("judge a 50 1;nut n 45 9 1;law wear 1;rest 30;");
+            for (int s = 0; s < 10; s++) {
+                text.append(Edges.suits(s, s, "a n " + s * apart));
+            }
+            JawBench y = Check.told(text.toString());
+            Check.due("days without suits behind them", 99, y.go(99));
+            Check.due("with their vacation", apart < 10 ? 50 : 49, y.count(5));
+            JawBench x = Check.told(text.toString());
+            x.put(9, 98);
+            Check.due("ten, " + apart + " apart, in 98 days", 9, x.ahead(98, 1) + x.ahead(98, 0) + x.ahead(98, 2));
+            Check.due("as told on day 90, worn on day 98", 49, x.ahead(99, 5));
+            Check.due("which one it is", 99, x.go(99));
+            Check.due("all ten are tried", 10, x.judge(0, 2));
+            Check.due("the lever", 49, x.count(5));
+            Check.due("on to a vacation", 120, x.go(21));
+            Check.due("as told", 50, x.count(5));
+        }
+    }
+
     @Says("NONE, and none does: no such number, behind 9900.")
     static void promise17_go_isRefusedBehind9900() {
-        JawBench x = Check.told(FOUR);
-        Edges.refused("go", x::go, -1, Integer.MIN_VALUE, -1, 100, 101, Integer.MAX_VALUE);
+        JawBench x = Check.told(Edges.FOUR);
+        Edges.same("go", x::go, -1, Integer.MIN_VALUE, -1, 100, 101, Integer.MAX_VALUE);
         Check.due("none went by", 0, x.count(4));
         Check.due("none is tried", -1, Check.suit(x, 0, 4));
         x.put(3, 9899);
@@ -186,7 +201,7 @@ public final class TestEdgesDeeds {
         Check.due("to 9900", 9900, x.go(98));
         Check.due("tried", 3, Check.suit(x, 3, 4));
         Check.due("not tried on 9900", -1, Check.suit(x, 2, 4));
-        Edges.refused("behind 9900", x::go, -1, 1, 2, 99, 100);
+        Edges.same("behind 9900", x::go, -1, 1, 2, 99, 100);
         Check.due("it stays", 9900, x.go(0));
         Check.due("oil goes on", 49, x.oil(2));
     }

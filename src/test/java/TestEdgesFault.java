@@ -51,7 +51,7 @@ public final class TestEdgesFault {
     static void promise4_fault_isNoneForAnotherWhat() {
         JawBench x = new JawBench();
         Check.tell(x, "lever 0;");
-        Edges.refused("fault", x::fault, -1, Integer.MIN_VALUE, -2, -1, 2, 3, Integer.MAX_VALUE);
+        Edges.same("fault", x::fault, -1, Integer.MIN_VALUE, -2, -1, 2, 3, Integer.MAX_VALUE);
         told(x, 2, 6);
     }
 
@@ -169,11 +169,8 @@ public final class TestEdgesFault {
         Check.fault(FOUR_JUDGES + " \njudge e 1 0;", 2, FOUR_JUDGES.length() + 2);
         Check.fault(SIX_NUTS, 0, -1);
         Check.fault(SIX_NUTS + "\n nut g 1 0 0;", 2, SIX_NUTS.length() + 2);
-        StringBuilder ten = new StringBuilder(BOTH);
-        for (char c = 'a'; c <= 'j'; c++) {
-            ten.append("suit ").append(c).append(" a n 1;");
-        }
-        Check.fault(ten.toString(), 0, -1);
+        String ten = BOTH + Edges.suits(0, 9, "a n 1");
+        Check.fault(ten, 0, -1);
         Check.fault(ten + " suit k a n 1;", 2, ten.length() + 1);
         Check.fault(ten + "nut m 1 1 1;judge b 1 1;", 0, -1);
         Check.fault(FOUR_JUDGES + SIX_NUTS, 0, -1);
@@ -337,7 +334,7 @@ public final class TestEdgesFault {
     static void promise5_named_isNoneWithout() {
         JawBench x = Check.told("judge a 1 0;nut a 1 0 0;suit a a a 0;");
         Edges.only("what", -1, 0, 2, what -> x.named(what, 1 << 25));
-        Edges.refused("letters", letters -> x.named(0, letters), -1, 0, -1, 2 << 25, 27 << 25, 31 << 25, 1 << 26,
+        Edges.same("letters", letters -> x.named(0, letters), -1, 0, -1, 2 << 25, 27 << 25, 31 << 25, 1 << 26,
                 Integer.MAX_VALUE, Integer.MIN_VALUE);
         Check.tell(x, "judge b 1 0;");
         Check.due("of the text ahead", -1, x.named(0, 1 << 25));

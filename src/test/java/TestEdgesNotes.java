@@ -33,9 +33,9 @@ public final class TestEdgesNotes {
         JawBench x = Check.told(TEXT);
         for (int verdict = 0; verdict < 4; verdict++) {
             int of = verdict;
-            Edges.refused("suit", s -> x.note(s, of, true), -1, Integer.MIN_VALUE, -1, 2, 3, 10, Integer.MAX_VALUE);
+            Edges.same("suit", s -> x.note(s, of, true), -1, Integer.MIN_VALUE, -1, 2, 3, 10, Integer.MAX_VALUE);
         }
-        Edges.refused("verdict", v -> x.note(0, v, true), -1, Integer.MIN_VALUE, -2, -1, 4, 5, Integer.MAX_VALUE);
+        Edges.same("verdict", v -> x.note(0, v, true), -1, Integer.MIN_VALUE, -2, -1, 4, 5, Integer.MAX_VALUE);
         Check.due("none came", 0, x.count(13));
         Check.due("the first of all", 0, x.note(0, 0, true));
         Check.due("the last of all", 1, x.note(1, 3, false));
@@ -71,16 +71,16 @@ public final class TestEdgesNotes {
     @Says("NONE: no such NOTE, or there are 24.")
     static void promise32_out_isNoneWithoutSuchANote() {
         JawBench x = Check.told(TEXT);
-        Edges.refused("out of none", x::out, -1, Integer.MIN_VALUE, -1, 0, 1, 23, Integer.MAX_VALUE);
+        Edges.same("out of none", x::out, -1, Integer.MIN_VALUE, -1, 0, 1, 23, Integer.MAX_VALUE);
         x.note(0, 1, true);
         x.note(0, 1, true);
-        Edges.refused("out of two", x::out, -1, Integer.MIN_VALUE, -1, 2, 3, 23, 24, Integer.MAX_VALUE);
+        Edges.same("out of two", x::out, -1, Integer.MIN_VALUE, -1, 2, 3, 23, 24, Integer.MAX_VALUE);
         Check.due("the last one", 2, x.out(1));
         Check.due("one that strikes", 3, x.out(2));
         for (int i = 4; i < 24; i++) {
             Check.due("out to 24", i, x.out(0));
         }
-        Edges.refused("a 25th", x::out, -1, 0, 1, 23);
+        Edges.same("a 25th", x::out, -1, 0, 1, 23);
         Check.due("24 stay", 24, x.count(13));
     }
 
@@ -114,19 +114,19 @@ public final class TestEdgesNotes {
     @Says("false: no such n.")
     static void promise33_known_isRefused() {
         JawBench x = Check.told(TEXT);
-        Edges.refused("of none", n -> x.known(n) ? 1 : 0, 0, Integer.MIN_VALUE, -2, 1, 24, Integer.MAX_VALUE);
-        Edges.refused("of none", n -> x.known(n) ? 1 : 0, 1, 0, -1);
+        Edges.same("of none", n -> x.known(n) ? 1 : 0, 0, Integer.MIN_VALUE, -2, 1, 24, Integer.MAX_VALUE);
+        Edges.same("of none", n -> x.known(n) ? 1 : 0, 1, 0, -1);
         x.note(0, 1, true);
         x.note(0, 1, true);
         x.known(1);
-        Edges.refused("of two", n -> x.known(n) ? 1 : 0, 0, Integer.MIN_VALUE, -2, 3, 4, 24, Integer.MAX_VALUE);
+        Edges.same("of two", n -> x.known(n) ? 1 : 0, 0, Integer.MIN_VALUE, -2, 3, 4, 24, Integer.MAX_VALUE);
         Check.due("as it was", 1, x.count(14));
         Check.due("all two", true, x.known(2));
         for (int i = 2; i < 24; i++) {
             x.note(0, 1, true);
         }
-        Edges.refused("of 24", n -> x.known(n) ? 1 : 0, 0, 25, 26);
-        Edges.refused("of 24", n -> x.known(n) ? 1 : 0, 1, 23, 24);
+        Edges.same("of 24", n -> x.known(n) ? 1 : 0, 0, 25, 26);
+        Edges.same("of 24", n -> x.known(n) ? 1 : 0, 1, 23, 24);
     }
 
     @Says({"KNOWN by n (all at first): the first n that aren't STRUCK by one of these",

@@ -170,12 +170,8 @@ public final class TestEdgesText {
         Check.due("one", 1, Check.tell(x, "lever 5;"));
         Check.due("one with blanks", 1, Check.tell(x, "\n lever\n5 ; "));
         Check.due("two", 2, Check.tell(x, "lever 5;rest 3;"));
-        StringBuilder most = new StringBuilder(ALL_OF_FOUR + ALL_OF_SIX);
-        for (char c = 'a'; c <= 'j'; c++) {
-            most.append("suit ").append(c).append(" a a 0;");
-        }
-        most.append("lever 1;rest 0;seed 0;law force 1;law slack 1;law wear 1;");
-        Check.due("as many as there can be", 26, Check.tell(x, most.toString()));
+        String others = "lever 1;rest 0;seed 0;law force 1;law slack 1;law wear 1;";
+        Check.due("as many as there can be", 26, Check.tell(x, ALL_OF_FOUR + ALL_OF_SIX + Edges.suits(0, 9, "a a 0") + others));
         Check.fault(";", 1, 0);
         Check.fault("lever 5;;", 1, 8);
         Check.fault("lever 5", 1, 7);
@@ -369,14 +365,10 @@ public final class TestEdgesText {
     @Says("SUITS, at most 10: before a JUDGE, about a NUT, on a DAY 0 .. 99.")
     static void promise3_text_bindsSuits() {
         numbers(BOTH + "suit s a n ", ";", 0, 99);
-        StringBuilder ten = new StringBuilder("judge a 1 0;judge b 1 0;nut n 1 0 0;nut m 1 0 0;nut k 1 0 0;");
-        for (char c = 'a'; c <= 'i'; c++) {
-            ten.append("suit ").append(c).append(" a n 0;");
-        }
-        ten.append("suit j b k 99;");
-        Check.fault(ten.toString(), 0, -1);
-        Check.fault(ten + "suit k a n 0;", 2, ten.length());
-        JawBench x = Check.told(ten.toString());
+        String ten = "judge a 1 0;judge b 1 0;nut n 1 0 0;nut m 1 0 0;nut k 1 0 0;" + Edges.suits(0, 8, "a n 0") + Edges.suits(9, 9, "b k 99");
+        Check.fault(ten, 0, -1);
+        Check.fault(ten + Edges.suits(10, 10, "a n 0"), 2, ten.length());
+        JawBench x = Check.told(ten);
         Check.due("ten", 10, x.count(2));
         Check.due("judge of the tenth", 1, Check.suit(x, 9, 0));
         Check.due("nut of the tenth", 2, Check.suit(x, 9, 1));

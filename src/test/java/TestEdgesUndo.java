@@ -1,9 +1,5 @@
 /** Promises 37 to 40 at their boundaries: undo, keep, back, count. */
 public final class TestEdgesUndo {
-    /** Day 0: halved (21 by 2), whole; day 1: kept, crumbs. */
-    private static final String FOUR = "judge ned 40 2;judge gus 20 0;nut wal 30 21 1;nut haz 8 11 0;"
-            + "suit a ned wal 0;suit b gus haz 0;suit c gus wal 1;suit d ned haz 1;";
-
     public static void main(String[] args) {
         Edges.run(TestEdgesUndo.class);
     }
@@ -12,7 +8,7 @@ public final class TestEdgesUndo {
 
     @Says({"Giving, STONES, putting off, oiling by call can be undone, the latest first", "The latest is undone: how many are left;"})
     static void promise37_undo_takesTheLatestBack() {
-        JawBench x = Check.told(FOUR);
+        JawBench x = Check.told(Edges.FOUR);
         x.give(0, 1);
         x.stone(0, true);
         x.put(0, 9999);
@@ -39,7 +35,7 @@ public final class TestEdgesUndo {
     @Says("NONE: none.")
     static void promise37_undo_isNoneWithout() {
         Check.due("new", -1, new JawBench().undo());
-        JawBench x = Check.told(FOUR);
+        JawBench x = Check.told(Edges.FOUR);
         Check.due("told", -1, x.undo());
         x.give(0, 0);
         x.give(9, 0);
@@ -74,7 +70,7 @@ public final class TestEdgesUndo {
             Check.due("no more", -1, x.undo());
             Check.due("those ahead of them stay", 50 + deeds - held, x.count(5));
         }
-        JawBench x = Check.told(FOUR);
+        JawBench x = Check.told(Edges.FOUR);
         x.put(2, 5);
         x.give(3, 1);
         for (int i = 0; i < 19; i++) {
@@ -91,7 +87,7 @@ public final class TestEdgesUndo {
 
     @Says("if no DAY went by since.")
     static void promise37_undo_endsWithADay() {
-        JawBench x = Check.told(FOUR);
+        JawBench x = Check.told(Edges.FOUR);
         x.oil(1);
         x.put(3, 7);
         x.go(0);
@@ -145,7 +141,7 @@ public final class TestEdgesUndo {
 
     @Says("An IMAGE is kept (in place of one ahead): which DAY it is.")
     static void promise38_keep_isInPlaceOfOneAhead() {
-        JawBench x = Check.told(FOUR);
+        JawBench x = Check.told(Edges.FOUR);
         Check.due("day 0", 0, x.keep());
         x.go(1);
         Check.due("day 1", 1, x.keep());
@@ -162,7 +158,7 @@ public final class TestEdgesUndo {
 
     @Says("(nothing to undo then): which DAY it is;")
     static void promise39_back_leavesNothingToUndo() {
-        JawBench x = Check.told(FOUR);
+        JawBench x = Check.told(Edges.FOUR);
         x.oil(1);
         x.oil(1);
         Check.due("keep", 0, x.keep());
@@ -182,7 +178,7 @@ public final class TestEdgesUndo {
     @Says("NONE: there is none.")
     static void promise39_back_isNoneWithout() {
         Check.due("new", -1, new JawBench().back());
-        JawBench x = Check.told(FOUR);
+        JawBench x = Check.told(Edges.FOUR);
         x.oil(1);
         x.go(1);
         x.oil(2);
@@ -203,13 +199,9 @@ public final class TestEdgesUndo {
 
     @Says("0 JUDGES, 1 NUTS, 2 SUITS, 3 KNOTS, 4 the DAY, 5 LEVER,")
     static void promise40_count_isOfWhatIsTold() {
-        StringBuilder most = new StringBuilder("judge a 1 0;judge b 1 0;judge c 1 0;judge d 1 0;"
-                + "nut a 1 0 0;nut b 1 0 0;nut c 1 0 0;nut d 1 0 0;nut e 1 0 0;nut f 1 0 0;");
-        for (char c = 'a'; c <= 'j'; c++) {
-            most.append("suit ").append(c).append(" a a 99;");
-        }
-        most.append("law force ").append("1+".repeat(31)).append("1;law wear 1;lever 99;");
-        JawBench x = Check.told(most.toString());
+        JawBench x = Check.told("judge a 1 0;judge b 1 0;judge c 1 0;judge d 1 0;"
+                + "nut a 1 0 0;nut b 1 0 0;nut c 1 0 0;nut d 1 0 0;nut e 1 0 0;nut f 1 0 0;" + Edges.suits(0, 9, "a a 99")
+                + "law force " + "1+".repeat(31) + "1;law wear 1;lever 99;");
         Edges.all("as many as there can be", new int[] {4, 6, 10, 64, 0, 99}, x::count);
         for (int i = 0; i < 99; i++) {
             x.go(99);
@@ -231,11 +223,7 @@ public final class TestEdgesUndo {
             Edges.all("on day " + x.count(4), row, what -> x.count(6 + what));
             x.go(1);
         }
-        StringBuilder ten = new StringBuilder("judge a 50 9;nut n 0 99 1;nut m 50 99 1;law wear 0;");
-        for (char c = 'a'; c <= 'j'; c++) {
-            ten.append("suit ").append(c).append(c < 'f' ? " a n 0;" : " a m 0;");
-        }
-        JawBench full = Check.told(ten.toString());
+        JawBench full = Check.told("judge a 50 9;nut n 0 99 1;nut m 50 99 1;law wear 0;" + Edges.suits(0, 4, "a n 0") + Edges.suits(5, 9, "a m 0"));
         full.go(1);
         Edges.all("all ten", new int[] {0, 5, 0, 5, 495, 495, 0}, what -> full.count(6 + what));
         JawBench none = Check.told("judge a 50 9;nut n 50 0 1;nut m 40 1 1;suit s a n 0;suit t a m 0;law wear 0;");
@@ -252,7 +240,7 @@ public final class TestEdgesUndo {
 
     @Says("13 NOTES, 14 by how many it is KNOWN, 15 what can be undone.")
     static void promise40_count_isOfNotesAndDeeds() {
-        JawBench x = Check.told(FOUR);
+        JawBench x = Check.told(Edges.FOUR);
         x.note(0, 0, true);
         x.note(1, 1, false);
         x.out(0);
@@ -268,6 +256,6 @@ public final class TestEdgesUndo {
     @Says("NONE for another what.")
     static void promise40_count_isNoneForAnotherWhat() {
         Edges.only("new", -1, 0, 15, new JawBench()::count);
-        Edges.only("told", -1, 0, 15, Check.told(FOUR)::count);
+        Edges.only("told", -1, 0, 15, Check.told(Edges.FOUR)::count);
     }
 }
